@@ -808,7 +808,7 @@ public final class InclusionProver {
       top = 0;
       pushFactors(root);
       numberOfTerm();
-      for (int term = 0; term < terms; term++) {
+      for (int term = 0; term < MOST_TERMS && term < terms; term++) {
         tellTerm(term, side);
         for (int letter = 0; letter < LETTERS; letter++) {
           findParts(term, letter, side);
@@ -1248,7 +1248,7 @@ public final class InclusionProver {
       }
       comeTo(0, 1, NONE, 0);
       int outcome = PROVED;
-      for (int i = 0; i < lines.size && outcome == PROVED; i++) {
+      for (int i = 0; i < MOST_LINES && i < lines.size && outcome == PROVED; i++) {
         outcome = takeTurn(i);
       }
       return outcome;
