@@ -43,20 +43,23 @@ public final class InclusionProver {
   private final Side[] trialSides;
   private final Lines trialLines;
   private final Room now;
+  /** Made with the object, so that no call makes rows; isImage tells which of them hold something. */
   private final Room[] images;
+  private final boolean[] isImage;
 
   public InclusionProver() {
     Tree tree = new Tree();
-    reader = new Reader(tree);
-    finder = new TermFinder(tree);
     draft = new Text(MADE_BYTES);
+    reader = new Reader(tree, draft);
+    finder = new TermFinder(tree);
     trialSides = new Side[] {new Side(), new Side()};
     trialLines = new Lines();
     search = new Search(trialSides[LEFT], trialSides[RIGHT], trialLines);
     kernel = new Kernel(trialSides[LEFT], trialSides[RIGHT], trialLines);
     counter = new WordCounter(trialSides[LEFT], trialSides[RIGHT]);
     now = new Room();
-    images = new Room[IMAGES];
+    images = new Room[] {new Room(), new Room()};
+    isImage = new boolean[IMAGES];
     for (int i = 0; i < SIDES; i++) {
       finder.findTerms(Tree.ZERO, now.sides[i]);
     }
@@ -288,15 +291,13 @@ public final class InclusionProver {
     if (k < 0 || k >= IMAGES) {
       return false;
     }
-    if (images[k] == null) {
-      images[k] = new Room();
-    }
     images[k].become(now);
+    isImage[k] = true;
     return true;
   }
 
   public boolean again(int k) {
-    if (k < 0 || k >= IMAGES || images[k] == null) {
+    if (k < 0 || k >= IMAGES || !isImage[k]) {
       return false;
     }
     now.become(images[k]);
@@ -682,13 +683,14 @@ public final class InclusionProver {
   /** Reads a text as an EXPRESSION, its SHAPE at once, or tells its FAULT. */
   private static final class Reader {
     private final Tree tree;
-    private Text text = new Text(0);
+    private Text text;
     private int limit;
     private int place;
     int fault = NONE;
 
-    Reader(Tree tree) {
+    Reader(Tree tree, Text text) {
       this.tree = tree;
+      this.text = text;
     }
 
     /** The node of what the first bytes of a text mean; NONE: fault tells where none goes on. */

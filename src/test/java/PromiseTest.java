@@ -762,8 +762,41 @@ public final class PromiseTest {
     due("an image made anew", x.count(0), 2);
   }
 
+  private static void againWithoutImages() {
+    InclusionProver x = new InclusionProver();
+    due("a new object has no image 0", x.again(0), false);
+    due("a new object has no image 1", x.again(1), false);
+    tape(x, "ab");
+    x.image(0);
+    tape(x, "c");
+    due("image 0 makes no image 1", x.again(1), false);
+    due("nothing happened", x.count(6), 3);
+    due("image 0", x.again(0), true);
+    due("as it was", x.count(6), 2);
+    due("image 0, again used, makes no image 1", x.again(1), false);
+    InclusionProver y = new InclusionProver();
+    y.image(1);
+    due("image 1 makes no image 0", y.again(0), false);
+    due("image 1", y.again(1), true);
+    InclusionProver z = new InclusionProver();
+    due("no image 2", z.image(2) || z.image(-1), false);
+    due("it made none", z.again(0) || z.again(1), false);
+    InclusionProver w = new InclusionProver();
+    w.image(0);
+    put(w, 0, "a*");
+    put(w, 1, "b");
+    w.keep(0, 3);
+    w.prove();
+    due("an image of a new object", w.again(0), true);
+    due("both sides 0", spelt(w, 0) + spelt(w, 1) + w.shape(0, 0) + w.shape(1, 0), "0011");
+    due("no lines", w.check(), -2);
+    due("slots 0", w.make(0, 0, 3, 0), 1);
+    due("slots 0", spelt(w, 0), "0");
+  }
+
   private static void again() {
     promise = 25;
+    againWithoutImages();
     InclusionProver x = of("(a+b)*", "(a+b+1)(a+b+1)(ba)*");
     due("none", x.again(0) || x.again(1) || x.again(2) || x.again(-1), false);
     x.keep(1, 2);
