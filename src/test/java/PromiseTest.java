@@ -1,10 +1,5 @@
 /** Each promise of the document: ordinary inputs, the edges that it names, and wrong inputs. */
-public final class PromiseTest {
-  private static final int LOW = Integer.MIN_VALUE;
-  private static final int HIGH = Integer.MAX_VALUE;
-  private static int wrong = 0;
-  private static int promise = 0;
-
+public final class PromiseTest extends Calls {
   public static void main(String[] args) {
     newObject();
     write();
@@ -31,109 +26,12 @@ public final class PromiseTest {
     between();
     image();
     again();
-    System.out.println(wrong == 0 ? "all promises hold" : wrong + " answers break a promise");
-    if (wrong != 0) {
-      System.exit(1);
-    }
-  }
-
-  private static void due(String call, int got, int want) {
-    if (got != want) {
-      wrong++;
-      System.out.println("promise " + promise + ": " + call + " is " + got + ", due is " + want);
-    }
-  }
-
-  private static void due(String call, String got, String want) {
-    if (!got.equals(want)) {
-      wrong++;
-      System.out.println("promise " + promise + ": " + call + " is '" + got + "', due is '" + want + "'");
-    }
-  }
-
-  private static void due(String call, boolean got, boolean want) {
-    due(call, got ? 1 : 0, want ? 1 : 0);
-  }
-
-  private static void tape(InclusionProver x, String text) {
-    for (int i = 0; i < text.length(); i += 8) {
-      long w = 0;
-      for (int j = 0; j < 8; j++) {
-        w = w << 8 | (i + j < text.length() ? text.charAt(i + j) : 0);
-      }
-      x.write(w);
-    }
-  }
-
-  private static int put(InclusionProver x, int side, String text) {
-    tape(x, text);
-    return x.side(side);
-  }
-
-  private static InclusionProver of(String left, String right) {
-    InclusionProver x = new InclusionProver();
-    put(x, 0, left);
-    put(x, 1, right);
-    return x;
-  }
-
-  private static String spelt(InclusionProver x, int side) {
-    StringBuilder out = new StringBuilder();
-    for (int i = 0; x.shape(side, 10 + i) != -1; i++) {
-      out.append((char) x.shape(side, 10 + i));
-    }
-    due("bytes of " + out, x.shape(side, 2), out.length());
-    return out.toString();
-  }
-
-  private static String termSpelt(InclusionProver x, int side, int term) {
-    StringBuilder out = new StringBuilder();
-    for (int i = 0; x.term(side, term, 10 + i) != -1; i++) {
-      out.append((char) x.term(side, term, 10 + i));
-    }
-    due("bytes of " + out, x.term(side, term, 1), out.length());
-    return out.toString();
-  }
-
-  private static String terms(String text) {
-    InclusionProver x = of(text, "0");
-    StringBuilder out = new StringBuilder();
-    for (int i = 0; i < x.shape(0, 0); i++) {
-      out.append(i == 0 ? "" : " ").append(termSpelt(x, 0, i));
-    }
-    return out.toString();
-  }
-
-  private static String shapeOf(String text) {
-    return spelt(of(text, "0"), 0);
-  }
-
-  private static String lineOf(InclusionProver x, int line) {
-    StringBuilder out = new StringBuilder();
-    out.append(x.line(line, 0)).append(' ').append(x.line(line, 1)).append(' ').append(x.line(line, 2));
-    for (int i = 0; i < x.line(line, 3); i++) {
-      out.append(' ').append(x.line(line, 10 + i));
-    }
-    return out.toString();
-  }
-
-  private static String apartOf(InclusionProver x) {
-    StringBuilder out = new StringBuilder();
-    for (int i = 0; i < x.apart(0); i++) {
-      out.append((char) ('a' - 1 + x.apart(1 + i)));
-    }
-    return x.apart(0) + " " + out;
-  }
-
-  private static int faultAt(String text) {
-    InclusionProver x = new InclusionProver();
-    due("side of " + text, put(x, 0, text), x.fault() == -1 ? x.shape(0, 0) : -1);
-    return x.fault();
+    end();
   }
 
   private static void newObject() {
-    promise = 1;
-    InclusionProver x = new InclusionProver();
+    says("promise 1");
+    Prover x = new Prover();
     for (int side = 0; side < 2; side++) {
       due("a new side", spelt(x, side), "0");
       due("its terms", x.shape(side, 0), 1);
@@ -153,8 +51,8 @@ public final class PromiseTest {
   }
 
   private static void write() {
-    promise = 2;
-    InclusionProver x = new InclusionProver();
+    says("promise 2");
+    Prover x = new Prover();
     due("nothing", x.write(0), 0);
     due("up to the first 0", x.write(0x6100626364656667L), 1);
     due("the last byte", x.write(0x6162636465666768L), 9);
@@ -172,8 +70,8 @@ public final class PromiseTest {
   }
 
   private static void side() {
-    promise = 3;
-    InclusionProver x = new InclusionProver();
+    says("promise 3");
+    Prover x = new Prover();
     due("30 letters", put(x, 0, "abcabcabcabcabcabcabcabcabcabc"), 31);
     due("tape is empty", x.count(6), 0);
     x.prove();
@@ -204,7 +102,7 @@ public final class PromiseTest {
   }
 
   private static void fault() {
-    promise = 4;
+    says("promise 4");
     due("none", faultAt("(a+b)*c"), -1);
     due("none", faultAt("  a  * ( b )  "), -1);
     due("the end", faultAt(""), 0);
@@ -231,7 +129,7 @@ public final class PromiseTest {
     due("brackets", faultAt("(".repeat(60)), 30);
     due("brackets", faultAt("(".repeat(20)), 20);
     due("brackets", faultAt("(".repeat(14) + "a" + ")".repeat(14)), -1);
-    InclusionProver x = new InclusionProver();
+    Prover x = new Prover();
     put(x, 0, "a+");
     x.make(0, 0, 0, 0);
     tape(x, "a");
@@ -242,8 +140,8 @@ public final class PromiseTest {
   }
 
   private static void swap() {
-    promise = 5;
-    InclusionProver x = of("ab", "c*");
+    says("promise 5");
+    Prover x = of("ab", "c*");
     x.prove();
     x.swap();
     due("left", spelt(x, 0), "c*");
@@ -256,8 +154,8 @@ public final class PromiseTest {
   }
 
   private static void keep() {
-    promise = 6;
-    InclusionProver x = of("ab", "c*");
+    says("promise 6");
+    Prover x = of("ab", "c*");
     due("keep", x.keep(0, 0) && x.keep(1, 3), true);
     due("no such", x.keep(2, 0) || x.keep(-1, 0) || x.keep(0, 4) || x.keep(0, -1), false);
     put(x, 0, "1");
@@ -272,8 +170,8 @@ public final class PromiseTest {
   }
 
   private static void make() {
-    promise = 7;
-    InclusionProver x = of("a+b", "b+c");
+    says("promise 7");
+    Prover x = of("a+b", "b+c");
     x.keep(0, 0);
     x.keep(1, 1);
     x.prove();
@@ -300,7 +198,7 @@ public final class PromiseTest {
   }
 
   private static void makeLong() {
-    InclusionProver x = of("aaaaaaaaaaaaaaa", "bbbbbbbbbbbbbbb");
+    Prover x = of("aaaaaaaaaaaaaaa", "bbbbbbbbbbbbbbb");
     x.keep(0, 0);
     x.keep(1, 1);
     due("30 bytes", x.make(0, 2, 0, 1), 31);
@@ -318,8 +216,8 @@ public final class PromiseTest {
   }
 
   private static void shape() {
-    promise = 8;
-    InclusionProver x = of("(a*b+1)*c(a+bc)", "ab+c");
+    says("promise 8");
+    Prover x = of("(a*b+1)*c(a+bc)", "ab+c");
     due("terms", x.shape(0, 0), 5);
     due("full", x.shape(0, 1), 0);
     due("bytes", x.shape(0, 2), 15);
@@ -352,7 +250,7 @@ public final class PromiseTest {
   }
 
   private static void term() {
-    promise = 9;
+    says("promise 9");
     due("terms", terms("(a+b)c*"), "(a+b)c* c*");
     due("terms", terms("(ab)*"), "(ab)* b(ab)*");
     due("terms", terms("a(ba)*b+1"), "a(ba)*b+1 (ba)*b a(ba)*b 1");
@@ -362,7 +260,7 @@ public final class PromiseTest {
     due("terms", terms("(a+b)*a(a+b)"), "(a+b)*a(a+b) a+b 1");
     due("terms by a ahead of b", terms("bc+ac*"), "bc+ac* c* c 1");
     due("terms in order", terms("a*(b+1)a"), "a*(b+1)a 1 a");
-    InclusionProver x = of("a*(b+1)a", "0");
+    Prover x = of("a*(b+1)a", "0");
     due("not full", x.term(0, 0, 0), 0);
     due("full", x.term(0, 1, 0), 1);
     due("by a", x.term(0, 0, 2), 3);
@@ -381,8 +279,8 @@ public final class PromiseTest {
   }
 
   private static void like() {
-    promise = 10;
-    InclusionProver x = of("abc", "ca+bc");
+    says("promise 10");
+    Prover x = of("abc", "ca+bc");
     // left: abc bc c 1; right: ca+bc c a 1
     due("left's like right's 1", x.like(0, 1), 2);
     due("left's like right's 3", x.like(0, 3), 3);
@@ -396,16 +294,9 @@ public final class PromiseTest {
     due("another order is not like", x.like(0, 0), -1);
   }
 
-  private static boolean has(InclusionProver x, int side, String word) {
-    tape(x, word);
-    boolean found = x.has(side);
-    due("tape is empty", x.count(6), 0);
-    return found;
-  }
-
   private static void has() {
-    promise = 11;
-    InclusionProver x = of("(a+b)*a(a+b)", "a*");
+    says("promise 11");
+    Prover x = of("(a+b)*a(a+b)", "a*");
     due("in", has(x, 0, "bbab") && has(x, 0, "aa") && has(x, 0, "a".repeat(30)), true);
     due("not in", has(x, 0, "abb") || has(x, 0, "a") || has(x, 0, "") || has(x, 0, "aac"), false);
     due("empty", has(x, 1, ""), true);
@@ -416,8 +307,8 @@ public final class PromiseTest {
   }
 
   private static void words() {
-    promise = 12;
-    InclusionProver x = of("(a+b)*", "(b+c)*a");
+    says("promise 12");
+    Prover x = of("(a+b)*", "(b+c)*a");
     int[] due3 = {8, 4, 1, 7, 3, 16};
     for (int i = 0; i < 6; i++) {
       due("words " + i, x.words(i, 3), due3[i]);
@@ -428,13 +319,13 @@ public final class PromiseTest {
     due("neither of 8", x.words(5, 8), 6561 - 256 - 128 + 1);
     due("no which", x.words(6, 1) + x.words(-1, 1) + x.words(LOW, 1), -3);
     due("no n", x.words(0, 9) + x.words(0, -1) + x.words(0, HIGH), -3);
-    x = new InclusionProver();
+    x = new Prover();
     due("neither of 0", x.words(5, 0) + x.words(5, 1) + x.words(5, 8), 6565);
   }
 
   private static void word() {
-    promise = 13;
-    InclusionProver x = of("(a+b)*", "(b+c)*a");
+    says("promise 13");
+    Prover x = of("(a+b)*", "(b+c)*a");
     due("bba", x.word(2, 3, 0), 2 * 16 + 2 * 4 + 1);
     due("no second", x.word(2, 3, 1), -1);
     due("aaa", x.word(0, 3, 0), 21);
@@ -450,8 +341,8 @@ public final class PromiseTest {
   }
 
   private static void prove() {
-    promise = 14;
-    InclusionProver x = of("(ab)*", "a(ba)*b+1");
+    says("promise 14");
+    Prover x = of("(ab)*", "a(ba)*b+1");
     due("proved", x.prove(), 0);
     due("line 0", lineOf(x, 0), "0 1 1 1");
     due("line 1", lineOf(x, 1), "1 2 1 2");
@@ -479,7 +370,7 @@ public final class PromiseTest {
   }
 
   private static void givenUp() {
-    InclusionProver x = of("(aaaaaaa)*", "(a+1)*+(aa)*+(aaa)*+(aaaaa)*");
+    Prover x = of("(aaaaaaa)*", "(a+1)*+(aa)*+(aaa)*+(aaaaa)*");
     due("proved by 211 lines", x.prove(), 0);
     due("lines", x.count(0), 211);
     due("the longest word", x.count(4), 210);
@@ -498,14 +389,14 @@ public final class PromiseTest {
     due("why", x.why(0), 1);
   }
 
-  private static InclusionProver givenUpProver() {
+  private static Prover givenUpProver() {
     // cycles of 11 letters on the left, of 2, 3, 5 on the right: 330 pairs
     return of("(a+1)*+(aaaaaaaaaaa)*", "(a+1)*+(aa)*+(aaa)*+(aaaaa)*");
   }
 
   private static void apart() {
-    promise = 15;
-    InclusionProver x = of("(a+b)*", "(a+b+1)(a+b+1)(ba)*");
+    says("promise 15");
+    Prover x = of("(a+b)*", "(a+b+1)(a+b+1)(ba)*");
     due("none yet", x.apart(0), -1);
     due("separated", x.prove(), 1);
     due("the word", apartOf(x), "3 aaa");
@@ -532,8 +423,8 @@ public final class PromiseTest {
   }
 
   private static void count() {
-    promise = 16;
-    InclusionProver x = of("(ab)*", "a(ba)*b+1");
+    says("promise 16");
+    Prover x = of("(ab)*", "a(ba)*b+1");
     x.prove();
     tape(x, "abc");
     int[] want = {3, 0, 3, 3, 2, 1, 3};
@@ -564,8 +455,8 @@ public final class PromiseTest {
   }
 
   private static void line() {
-    promise = 17;
-    InclusionProver x = of("a+bb", "b*");
+    says("promise 17");
+    Prover x = of("a+bb", "b*");
     due("no lines", x.line(0, 0), -2);
     x.prove();
     due("line 0", lineOf(x, 0), "0 1 1 1 2");
@@ -577,8 +468,8 @@ public final class PromiseTest {
   }
 
   private static void alter() {
-    promise = 18;
-    InclusionProver x = of("a+bb", "b*");
+    says("promise 18");
+    Prover x = of("a+bb", "b*");
     due("no lines", x.alter(0, 0, 0), -2);
     x.prove();
     due("its term", x.alter(2, 0, HIGH), 2);
@@ -596,8 +487,8 @@ public final class PromiseTest {
   }
 
   private static void cut() {
-    promise = 19;
-    InclusionProver x = of("a+bb", "b*");
+    says("promise 19");
+    Prover x = of("a+bb", "b*");
     due("none", x.cut(), -1);
     x.prove();
     due("2 left", x.cut(), 2);
@@ -612,8 +503,8 @@ public final class PromiseTest {
   }
 
   private static void check() {
-    promise = 20;
-    InclusionProver x = of("(ab)*", "a(ba)*b+1");
+    says("promise 20");
+    Prover x = of("(ab)*", "a(ba)*b+1");
     due("no lines", x.check(), -2);
     x.prove();
     due("accepted", x.check(), -1);
@@ -629,15 +520,15 @@ public final class PromiseTest {
     x.alter(2, 1, 12);
     x.alter(2, 10, 0);
     due("another premise", x.check(), 2);
-    InclusionProver y = of("(a+b)*", "a(a+b)*");
+    Prover y = of("(a+b)*", "a(a+b)*");
     y.prove();
     due("a search that ended", y.check(), 0);
     due("reason", y.why(0), 1);
   }
 
   private static void why() {
-    promise = 21;
-    InclusionProver x = of("(ab)*", "a(ba)*b+1");
+    says("promise 21");
+    Prover x = of("(ab)*", "a(ba)*b+1");
     due("no lines", x.why(0) + x.why(1) + x.why(2), 0);
     due("no what", x.why(3) + x.why(-1) + x.why(LOW), -3);
     x.prove();
@@ -666,7 +557,7 @@ public final class PromiseTest {
   }
 
   /** After one alteration; it is taken back then. */
-  private static void whyIs(InclusionProver x, int line, int what, int v, int reason, int letter, int part) {
+  private static void whyIs(Prover x, int line, int what, int v, int reason, int letter, int part) {
     int was = x.alter(line, what, v);
     String call = "why of " + line + ", " + what + " is " + v;
     due(call, x.why(0) + " " + x.why(1) + " " + x.why(2), reason + " " + letter + " " + part);
@@ -675,7 +566,7 @@ public final class PromiseTest {
   }
 
   private static void whySix() {
-    InclusionProver x = of("ab", "ab+c");
+    Prover x = of("ab", "ab+c");
     x.prove();
     due("accepted", x.check(), -1);
     // left: ab b 1; right: ab+c b 1
@@ -687,7 +578,7 @@ public final class PromiseTest {
     x.alter(1, 2, 5);
     due("behind all others", x.check(), 1);
     due("reason 1", x.why(0), 1);
-    InclusionProver y = of("0", "a");
+    Prover y = of("0", "a");
     y.prove();
     y.alter(0, 1, 0);
     due("a set of nothing", y.check(), -1);
@@ -699,8 +590,8 @@ public final class PromiseTest {
   }
 
   private static void same() {
-    promise = 22;
-    InclusionProver x = of("(ab)*", "a(ba)*b+1");
+    says("promise 22");
+    Prover x = of("(ab)*", "a(ba)*b+1");
     x.prove();
     x.cut();
     due("same", x.same(), 1);
@@ -712,8 +603,8 @@ public final class PromiseTest {
     due("nothing stays", x.count(0), 0);
     due("no word", x.apart(0), -1);
     due("none of the search", x.count(4), 0);
-    due("both 0", new InclusionProver().same(), 1);
-    InclusionProver y = givenUpProver();
+    due("both 0", new Prover().same(), 1);
+    Prover y = givenUpProver();
     due("given up", y.same(), 2);
     y.swap();
     due("given up", y.same(), 2);
@@ -724,8 +615,8 @@ public final class PromiseTest {
   }
 
   private static void between() {
-    promise = 23;
-    InclusionProver x = of("(ab)*", "(ab)*ab");
+    says("promise 23");
+    Prover x = of("(ab)*", "(ab)*ab");
     x.keep(0, 0);
     x.keep(1, 1);
     x.prove();
@@ -738,15 +629,15 @@ public final class PromiseTest {
     due("nothing stays", x.count(0), lines);
     due("nothing stays", apartOf(x), "0 ");
     due("the sides stay", spelt(x, 0) + " " + spelt(x, 1), "(ab)* (ab)*ab");
-    InclusionProver y = givenUpProver();
+    Prover y = givenUpProver();
     y.keep(0, 2);
     y.keep(1, 3);
     due("given up", y.between(2, 3), 2);
   }
 
   private static void image() {
-    promise = 24;
-    InclusionProver x = of("(ab)*", "a(ba)*b+1");
+    says("promise 24");
+    Prover x = of("(ab)*", "a(ba)*b+1");
     x.prove();
     due("image", x.image(0), true);
     x.cut();
@@ -763,7 +654,7 @@ public final class PromiseTest {
   }
 
   private static void againWithoutImages() {
-    InclusionProver x = new InclusionProver();
+    Prover x = new Prover();
     due("a new object has no image 0", x.again(0), false);
     due("a new object has no image 1", x.again(1), false);
     tape(x, "ab");
@@ -774,14 +665,14 @@ public final class PromiseTest {
     due("image 0", x.again(0), true);
     due("as it was", x.count(6), 2);
     due("image 0, again used, makes no image 1", x.again(1), false);
-    InclusionProver y = new InclusionProver();
+    Prover y = new Prover();
     y.image(1);
     due("image 1 makes no image 0", y.again(0), false);
     due("image 1", y.again(1), true);
-    InclusionProver z = new InclusionProver();
+    Prover z = new Prover();
     due("no image 2", z.image(2) || z.image(-1), false);
     due("it made none", z.again(0) || z.again(1), false);
-    InclusionProver w = new InclusionProver();
+    Prover w = new Prover();
     w.image(0);
     put(w, 0, "a*");
     put(w, 1, "b");
@@ -795,9 +686,9 @@ public final class PromiseTest {
   }
 
   private static void again() {
-    promise = 25;
+    says("promise 25");
     againWithoutImages();
-    InclusionProver x = of("(a+b)*", "(a+b+1)(a+b+1)(ba)*");
+    Prover x = of("(a+b)*", "(a+b+1)(a+b+1)(ba)*");
     due("none", x.again(0) || x.again(1) || x.again(2) || x.again(-1), false);
     x.keep(1, 2);
     put(x, 1, "a*a*");
