@@ -540,6 +540,9 @@ public final class EdgeCallsTest extends Rooms {
     for (int what : new int[] {-1, 9, 40, 41, -10, LOW, LOW + 9, LOW + 10, LOW + 20, HIGH, HIGH - 10}) {
       all("what " + what, -1, x.shape(0, what), x.shape(1, what));
     }
+    nothing("shape(2, 0)", r -> r.shape(2, 0), -1);
+    nothing("shape(0, 9)", r -> r.shape(0, 9), -1);
+    nothing("shape(1, 40)", r -> r.shape(1, 40), -1);
   }
 
   // ---- promise 9
@@ -585,6 +588,9 @@ public final class EdgeCallsTest extends Rooms {
     due("not a byte of the next TERM", x.term(0, 1, 12), -1);
     put(x, 0, "a");
     all("TERMS that are gone", -1, x.term(0, 2, 0), x.term(0, 3, 1));
+    nothing("term(2, 0, 0)", r -> r.term(2, 0, 0), -1);
+    nothing("term(0, 31, 2)", r -> r.term(0, 31, 2), -1);
+    nothing("term(0, 0, 9)", r -> r.term(0, 0, 9), -1);
   }
 
   // ---- promise 10
@@ -615,6 +621,9 @@ public final class EdgeCallsTest extends Rooms {
     }
     due("none is LIKE", of("a+b", "b+a").like(0, 0), -1);
     due("one that begins so", of("ab+ac", "ab").like(0, 0), -1);
+    nothing("like(2, 0)", r -> r.like(2, 0), -1);
+    nothing("like(0, 31)", r -> r.like(0, 31), -1);
+    nothing("like(0, 0)", r -> r.like(0, 0), -1);
   }
 
   // ---- promise 11
@@ -659,6 +668,8 @@ public final class EdgeCallsTest extends Rooms {
       x = b == 128 ? of("(a+b+c)*", "(a+b+c)*") : x;
       due("byte " + b, has(x, b % 2, "" + (char) b), b == 'a' || b == 'b' || b == 'c');
     }
+    none("a LETTER too low, too high, where there are several TERMS", has(of("ba", "0"), 0, "d"),
+        has(of("ba", "0"), 0, "bd"), has(of("cab", "0"), 0, "`ab"), has(of("ba", "cab"), 1, "d"));
     none("other bytes among LETTERS", has(x, 0, "a b"), has(x, 0, "ab "), has(x, 0, " ab"), has(x, 0, "a*"),
         has(x, 0, "ab1"), has(x, 0, "1"), has(x, 0, a(29) + "d"));
     for (int side : NO_SIDES) {
@@ -709,6 +720,8 @@ public final class EdgeCallsTest extends Rooms {
     for (int which : new int[] {-1, 6, 7, LOW, HIGH}) {
       all("words(" + which + ", ..)", -1, x.words(which, 0), x.words(which, 1), x.words(which, 8));
     }
+    nothing("words(6, 1)", r -> r.words(6, 1), -1);
+    nothing("words(0, 9)", r -> r.words(0, 9), -1);
   }
 
   // ---- promise 13
@@ -740,6 +753,8 @@ public final class EdgeCallsTest extends Rooms {
     all("behind the last", -1, x.word(1, 8, 2), x.word(0, 8, 6561), x.word(0, 0, 1), x.word(1, 0, 0),
         x.word(4, 3, 0), x.word(5, 8, 0), x.word(0, 1, 3), x.word(0, 1, HIGH));
     all("ahead of the first", -1, x.word(0, 1, -1), x.word(0, 0, -1), x.word(0, 8, LOW), x.word(1, 1, -2));
+    nothing("word(0, 2, 4)", r -> r.word(0, 2, 4), -1);
+    nothing("word(0, 2, -1)", r -> r.word(0, 2, -1), -1);
   }
 
   private static void wordOthers() {
@@ -751,5 +766,7 @@ public final class EdgeCallsTest extends Rooms {
     for (int n : new int[] {-1, 9, LOW, HIGH}) {
       all("n " + n, -1, x.word(0, n, 0), x.word(1, n, 0), x.word(2, n, 0), x.word(5, n, 0));
     }
+    nothing("word(6, 1, 0)", r -> r.word(6, 1, 0), -1);
+    nothing("word(0, 9, 0)", r -> r.word(0, 9, 0), -1);
   }
 }

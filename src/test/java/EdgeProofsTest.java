@@ -189,6 +189,8 @@ public final class EdgeProofsTest extends Rooms {
     all("GIVEN UP", -1, x.apart(0), x.apart(1));
     x = new Prover();
     all("a new object", -1, x.apart(0), x.apart(-1));
+    nothing("apart(3)", r -> r.apart(3), -1);
+    nothing("apart(-1)", r -> r.apart(-1), -1);
   }
 
   // ---- promise 16
@@ -351,6 +353,9 @@ public final class EdgeProofsTest extends Rooms {
     x.cut();
     due("cut", x.line(299, 0), -2);
     due("the last that is left", x.line(298, 2), 1);
+    nothing("line(300, 0)", r -> r.line(300, 0), -2);
+    nothing("line(0, 12)", r -> r.line(0, 12), -2);
+    nothing("line(0, 9)", r -> r.line(0, 9), -2);
   }
 
   // ---- promise 18
@@ -703,6 +708,7 @@ public final class EdgeProofsTest extends Rooms {
       leaves("again(" + k + ") twice", x -> told(x.again(of)) + told(x.again(of)), 2, () -> scrambled(of),
           () -> roomWithImage(of));
     }
+    againOfManyTerms();
     Prover x = proved(LINES_300);
     x.image(0);
     x.cut();
@@ -717,6 +723,24 @@ public final class EdgeProofsTest extends Rooms {
     x.alter(5, 10, 9);
     x.cut();
     due("what is altered then is not the image's", x.again(0) + " " + x.check(), "true -1");
+  }
+
+  private static void againOfManyTerms() {
+    Prover x = of(a(30), "bc+" + a(27));
+    x.keep(0, 3);
+    x.prove();
+    x.image(1);
+    put(x, 0, "(b*a+b)(a+b)c*a");
+    put(x, 1, "cab+b*b*(b+a)*b*");
+    x.keep(1, 3);
+    x.prove();
+    due("31 TERMS", x.again(1) + " " + x.shape(0, 0) + " " + x.term(0, 29, 2), "true 31 " + (1 << 30));
+    due("LINES", x.count(0) + " " + x.count(3) + " " + apartOf(x), "31 30 30 " + a(30));
+    x.prove();
+    due("as they come anew", x.count(0) + " " + x.count(3) + " " + apartOf(x), "31 30 30 " + a(30));
+    x.swap();
+    due("the other way", x.prove() + " " + apartOf(x), "1 2 bc");
+    due("the SLOT", x.make(0, 0, 3, 0), 31);
   }
 
   private static void againNoSuch() {

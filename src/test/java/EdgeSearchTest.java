@@ -81,6 +81,30 @@ public final class EdgeSearchTest extends Calls {
     Prover x = proved("a*a*a*a*a*a*a*a*a*a*a*a*a*a*a*", "(a+1)*");
     due("15 PARTS", lineOf(x, 0), "0 1 1 0 1 2 3 4 5 6 7 8 9 10 11 12 13 14");
     due("the KERNEL takes them", x.check(), -1);
+    manyPremises();
+  }
+
+  /** 15 TERMS by rings of 19: many LINES, each with up to 15 PREMISES. */
+  private static void manyPremises() {
+    String left = "a*a*a*a*a*a*a*a*a*a*a*a*a*a*a*";
+    String right = "(a+1)*+(" + a(19) + ")*";
+    Oracle.Found want = Oracle.search(Oracle.read(left), Oracle.read(right));
+    int all = 0;
+    for (Oracle.Line line : want.lines) {
+      all += line.premises.size();
+    }
+    Prover x = of(left, right);
+    due("the SEARCH", x.prove(), want.outcome);
+    due("LINES, PREMISES", x.count(0) + " " + x.count(3), want.lines.size() + " " + all);
+    for (int i = want.lines.size() - 1; i >= 0 && x.calls() < Prover.PROMISED - 20; i -= 12) {
+      Oracle.Line line = want.lines.get(i);
+      due("LINE " + i, x.line(i, 0) + " " + x.line(i, 1) + " " + x.line(i, 3), line.term + " " + line.set + " "
+          + line.premises.size());
+      for (int j = 0; j < line.premises.size(); j++) {
+        due("PREMISE " + j + " of LINE " + i, x.line(i, 10 + j), line.premises.get(j));
+      }
+    }
+    due("the KERNEL", x.check(), Oracle.kernel(Oracle.read(left), Oracle.read(right), want.lines)[0]);
   }
 
   private static void firstFit() {
@@ -243,6 +267,15 @@ public final class EdgeSearchTest extends Calls {
     x.alter(0, 0, 30);
     x.alter(0, 1, 1 << 30);
     due("the last TERM, the last bit", verdict(x), "0: 6 -1 -1");
+    x.alter(0, 2, 1);
+    due("STEP of the last TERM, the last bit", verdict(x), "0: 6 -1 -1");
+    x.alter(0, 1, HIGH);
+    due("STEP of the last TERM, all bits", verdict(x), "0: 6 -1 -1");
+    x.alter(0, 1, HIGH - (1 << 30));
+    due("STEP of the last TERM, all bits but the last", verdict(x), "0: 3 -1 -1");
+    x.alter(0, 0, 29);
+    x.alter(0, 1, 1 << 29);
+    due("STEP of the last but one, no PREMISE", verdict(x), "0: 5 1 30");
   }
 
   private static void reasonTwo() {

@@ -79,6 +79,7 @@ public final class EdgeTermsTest extends Calls {
       x.again(1);
     });
     longProofsToTheLastCall();
+    manyTextsToTheLastCall();
   }
 
   /** The 512th call answers as it would at once, whatever the calls ahead of it were. */
@@ -110,6 +111,20 @@ public final class EdgeTermsTest extends Calls {
     }
     due("LINES", x.count(0), 300);
     due("the 512th call", x.line(298, 0), 22);
+  }
+
+  /** New texts up to the last call, each read as if it were the first. */
+  private static void manyTextsToTheLastCall() {
+    Prover x = new Prover();
+    for (int i = 0; x.calls() <= Prover.PROMISED - 3; i++) {
+      String one = "abc".substring(i % 3, i % 3 + 1) + "abc".charAt(i / 3 % 3);
+      String other = "abc".substring(i / 9 % 3, i / 9 % 3 + 1);
+      String text = (i / 81 % 2 == 0 ? "(" + one + "+" + other : "(" + other + "+" + one) + ")*"
+          + "abc".charAt(i / 27 % 3);
+      Oracle.Shape want = Oracle.read(text);
+      due("TERMS of " + text, put(x, i % 2, text), Oracle.termsOf(want).size());
+      due("bytes of " + text, x.shape(i % 2, 2), want.told().length());
+    }
   }
 
   private static void laterCalls() {
@@ -459,6 +474,7 @@ public final class EdgeTermsTest extends Calls {
     due("in the other order", terms("aa+ab+ac"), "aa+ab+ac a b c 1");
     due("each but once", terms("aa*+a*"), "aa*+a* a*");
     due("each but once, as bits", partsOf("aa*+a*", 0), "2 0 0");
+    due("each but once, as PREMISES", lineOf(proved("aa*+a*", "(a+1)*"), 0), "0 1 1 1");
     due("1 has none", partsOf("1+ab+ac+b", 0), "6 8 0");
     due("order of PREMISES", lineOf(proved("b+ac+ab+a", "b"), 0), "0 1 1 1 2 3 3");
   }
@@ -478,6 +494,8 @@ public final class EdgeTermsTest extends Calls {
     due("the second has none: the third is out", partsOf("(1+a)bc", 0), "2 4 0");
     due("the others, one alone", terms("a*(b+c)"), "a*(b+c) 1");
     due("each but once", partsOf("a*a*", 0), "3 0 0");
+    due("each but once, as PREMISES", lineOf(proved("(1+a)(1+a)(1+a)", "(a+1)*"), 0), "0 1 1 1 2 3");
+    due("its own again, as PREMISES", lineOf(proved("(1+a)a*+a*", "(a+1)*"), 0), "0 1 1 1");
     due("each but once, one that is the others'", terms("(1+a)a*"), "(1+a)a* a*");
   }
 

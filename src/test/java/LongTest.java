@@ -2,7 +2,7 @@ import java.util.List;
 import java.util.Random;
 
 /** EXPRESSIONS of nearly 30 bytes: their TERMS, and whole SEARCHES, line by line as the Oracle's. */
-public final class LongTest {
+public final class LongTest extends Calls {
   private static final int ROUNDS = 1500;
   private static final Random RANDOM = new Random(30);
   private static final int[] OUTCOMES = new int[3];
@@ -11,110 +11,94 @@ public final class LongTest {
   private static int mostPremises = 0;
   private static int cutShort = 0;
 
+  private final String left;
+  private final String right;
+  private final List<Oracle.Shape> leftTerms;
+  private final List<Oracle.Shape> rightTerms;
+  private Prover prover;
+  private boolean proved = false;
+
+  private LongTest(String left, String right) {
+    this.left = left;
+    this.right = right;
+    leftTerms = Oracle.termsOf(Oracle.read(left));
+    rightTerms = Oracle.termsOf(Oracle.read(right));
+    prover = of(left, right);
+  }
+
   public static void main(String[] args) {
-    InclusionProver prover = new InclusionProver();
     for (int i = 0; i < ROUNDS; i++) {
       String left = i % 10 == 0 ? twoCycles() : expression(i % 3);
       String right = i % 10 == 0 ? cycles() : i % 7 == 0 ? left : expression(i / 4 % 3);
-      String fault = i % 100 == 0 ? differs(new InclusionProver(), left, right) : differs(prover, left, right);
-      if (fault != null) {
-        System.out.println(left + " in " + right + ": " + fault);
-        System.exit(1);
-      }
+      says(left + " in " + right);
+      LongTest test = new LongTest(left, right);
+      test.terms(0, test.leftTerms);
+      test.terms(1, test.rightTerms);
+      test.search();
     }
     System.out.println("proved " + OUTCOMES[0] + ", separated " + OUTCOMES[1] + ", given up " + OUTCOMES[2]
         + " (" + cutShort + " with lines of the line in turn); longest term " + longestTerm
         + ", most terms " + mostTerms + ", most premises " + mostPremises);
-    if (OUTCOMES[0] == 0 || OUTCOMES[1] == 0 || OUTCOMES[2] == 0 || cutShort == 0) {
-      System.out.println("a kind of outcome did not come");
-      System.exit(1);
-    }
+    due("each kind of outcome came",
+        OUTCOMES[0] > 0 && OUTCOMES[1] > 0 && OUTCOMES[2] > 0 && cutShort > 0, true);
+    end();
   }
 
-  private static String differs(InclusionProver p, String left, String right) {
-    List<Oracle.Shape> ls = Oracle.termsOf(Oracle.read(left));
-    List<Oracle.Shape> rs = Oracle.termsOf(Oracle.read(right));
-    String fault = differsSide(p, 0, left, ls);
-    fault = fault != null ? fault : differsSide(p, 1, right, rs);
-    if (fault != null) {
-      return fault;
-    }
-    Oracle.Found found = Oracle.search(ls.get(0), rs.get(0));
-    int outcome = p.prove();
-    OUTCOMES[outcome]++;
-    if (outcome != found.outcome || p.count(0) != found.lines.size()) {
-      return "outcome " + outcome + ", " + p.count(0) + " lines";
-    }
-    for (int i = 0; i < found.lines.size(); i++) {
-      if (!sameLine(p, i, found.lines.get(i))) {
-        return "line " + i;
+  /** An object that is as far and has room for so many calls more. */
+  private Prover ready(int calls) {
+    if (prover.calls() + calls > Prover.PROMISED) {
+      prover = of(left, right);
+      if (proved) {
+        prover.prove();
       }
     }
-    if (outcome == 2) {
-      noteCutShort(p);
-    }
-    int[] kernel = Oracle.kernel(ls.get(0), rs.get(0), found.lines);
-    if (p.check() != kernel[0] || (outcome == 0 && kernel[0] != -1)) {
-      return "check " + p.check();
-    }
-    return outcome == 1 ? differsApart(p, ls.get(0), rs.get(0), found.word) : null;
+    return prover;
   }
 
-  private static String differsSide(InclusionProver p, int side, String text, List<Oracle.Shape> terms) {
-    for (int i = 0; i < text.length(); i += 8) {
-      long w = 0;
-      for (int j = 0; j < 8; j++) {
-        w = w << 8 | (i + j < text.length() ? text.charAt(i + j) : 0);
-      }
-      p.write(w);
-    }
-    int n = p.side(side);
-    mostTerms = Math.max(mostTerms, n);
-    if (n != terms.size()) {
-      return n + " terms";
-    }
-    for (int i = 0; i < n; i++) {
+  private void terms(int side, List<Oracle.Shape> terms) {
+    mostTerms = Math.max(mostTerms, terms.size());
+    due("TERMS of side " + side, ready(1).shape(side, 0), terms.size());
+    for (int i = 0; i < terms.size(); i++) {
       String told = terms.get(i).told();
       longestTerm = Math.max(longestTerm, told.length());
-      boolean good = p.term(side, i, 1) == told.length()
-          && p.term(side, i, 0) == (terms.get(i).full() ? 1 : 0);
-      for (int j = 0; j < told.length(); j++) {
-        good = good && p.term(side, i, 10 + j) == told.charAt(j);
-      }
-      for (int x = 0; x < 3; x++) {
-        good = good && p.term(side, i, 2 + x) == Oracle.setOf(terms, i, (char) ('a' + x));
-      }
-      if (!good) {
-        return "term " + i + " of side " + side;
+      Prover x = ready(told.length() + 6);
+      due("TERM " + i, termSpelt(x, side, i), told);
+      due("FULL", x.term(side, i, 0), terms.get(i).full() ? 1 : 0);
+      for (int letter = 0; letter < 3; letter++) {
+        due("PARTS of TERM " + i, x.term(side, i, 2 + letter), Oracle.setOf(terms, i, (char) ('a' + letter)));
       }
     }
-    return null;
   }
 
-  private static boolean sameLine(InclusionProver p, int i, Oracle.Line line) {
-    boolean good = p.line(i, 0) == line.term && p.line(i, 1) == line.set && p.line(i, 2) == line.rule
-        && p.line(i, 3) == line.premises.size();
-    mostPremises = Math.max(mostPremises, line.premises.size());
-    for (int j = 0; j < line.premises.size(); j++) {
-      good = good && p.line(i, 10 + j) == line.premises.get(j);
+  private void search() {
+    Oracle.Found found = Oracle.search(leftTerms.get(0), rightTerms.get(0));
+    int outcome = ready(1).prove();
+    proved = true;
+    OUTCOMES[found.outcome]++;
+    due("prove", outcome, found.outcome);
+    due("LINES", ready(1).count(0), found.lines.size());
+    for (int i = 0; i < found.lines.size(); i++) {
+      Oracle.Line line = found.lines.get(i);
+      StringBuilder want = new StringBuilder(line.term + " " + line.set + " " + line.rule);
+      line.premises.forEach(premise -> want.append(' ').append(premise));
+      mostPremises = Math.max(mostPremises, line.premises.size());
+      due("LINE " + i, lineOf(ready(line.premises.size() + 4), i), want.toString());
     }
-    return good;
-  }
-
-  /** LINES that only the LINE in turn came to are PREMISES of none. */
-  private static void noteCutShort(InclusionProver p) {
-    if (p.count(5) > 1) {
+    // LINES that only the LINE in turn came to are PREMISES of none
+    if (found.outcome == 2 && ready(1).count(5) > 1) {
       cutShort++;
     }
+    due("check", ready(1).check(), Oracle.kernel(leftTerms.get(0), rightTerms.get(0), found.lines)[0]);
+    due("check of what is proved", outcome != 0 || ready(1).check() == -1, true);
+    if (outcome == 1) {
+      separatedBy(found.word);
+    }
   }
 
-  private static String differsApart(InclusionProver p, Oracle.Shape left, Oracle.Shape right, String want) {
-    StringBuilder word = new StringBuilder();
-    for (int i = 0; i < p.apart(0); i++) {
-      word.append((char) ('a' - 1 + p.apart(1 + i)));
-    }
-    boolean good = word.toString().equals(want) && Oracle.hasWord(left, want) && !Oracle.hasWord(right, want);
-    return good ? null : "apart " + word;
+  private void separatedBy(String word) {
+    due("apart", apartOf(ready(word.length() + 1)), word.length() + " " + word);
+    due("it is LEFT's alone", Oracle.hasWord(leftTerms.get(0), word) && !Oracle.hasWord(rightTerms.get(0), word),
+        true);
   }
 
   private static String expression(int family) {

@@ -3,10 +3,13 @@ import java.util.Random;
 /** Long runs of calls by chance (always the same ones), each answer held against the Oracle's. */
 public final class OracleTest {
   private static final int RUNS = 1500;
-  private static final int CALLS = 200;
+  /** Bytes of a text: more than the tape takes. */
+  private static final int LONGEST = 72;
+  /** The most calls that one round takes: those of the longest text, side(), fault(). */
+  private static final int ROUND = LONGEST / 8 + 2;
 
   private final Random random;
-  private final InclusionProver prover = new InclusionProver();
+  private final Prover prover = new Prover();
   private final Oracle oracle = new Oracle();
   private final StringBuilder told = new StringBuilder();
 
@@ -23,14 +26,14 @@ public final class OracleTest {
         System.out.println("seed " + seed + test.told);
       }
     }
-    System.out.println(RUNS + " runs by chance, wrong: " + wrong);
-    if (wrong != 0) {
+    System.out.println(RUNS + " runs by chance, wrong: " + wrong + ", calls beyond the promised: " + Prover.beyond);
+    if (wrong != 0 || Prover.beyond != 0) {
       System.exit(1);
     }
   }
 
   private boolean agrees() {
-    for (int i = 0; i < CALLS; i++) {
+    while (prover.calls() <= Prover.PROMISED - ROUND) {
       if (!callOnce(random.nextInt(34))) {
         return false;
       }
@@ -167,6 +170,7 @@ public final class OracleTest {
     if (random.nextInt(4) != 0 && text.length() > 30) {
       return true;
     }
+    text = text.substring(0, Math.min(text.length(), LONGEST));
     return write(text) && (random.nextInt(30) == 0 || due("side " + side, prover.side(side), oracle.side(side)))
         && due("fault", prover.fault(), oracle.fault());
   }

@@ -78,7 +78,7 @@ abstract class Rooms extends Calls {
   /** Each looks at a new object, as some can be had only by calls that change it. */
   private static final List<Function<Prover, String>> LOOKS = List.of(Rooms::sidesSeen,
       x -> termsSeen(x, 0), x -> termsSeen(x, 1), Rooms::proofSeen, Rooms::linesSeen, Rooms::tapeSeen,
-      Rooms::tapeAsWord, Rooms::slotsSeen, x -> imageSeen(x, 0), x -> imageSeen(x, 1));
+      Rooms::tapeAsWord, Rooms::slotsSeen, Rooms::searchSeen, x -> imageSeen(x, 0), x -> imageSeen(x, 1));
 
   private static String sidesSeen(Prover x) {
     StringBuilder out = new StringBuilder("sides:");
@@ -124,6 +124,13 @@ abstract class Rooms extends Calls {
     return out.toString();
   }
 
+  /** What the SIDES come to: their PARTS in order are seen in it. */
+  private static String searchSeen(Prover x) {
+    String there = x.prove() + linesSeen(x);
+    x.swap();
+    return "search: " + there + " and back: " + x.prove() + linesSeen(x);
+  }
+
   private static String tapeSeen(Prover x) {
     return "tape: " + x.count(6) + " " + x.side(0) + " " + x.fault() + " " + spelt(x, 0) + " " + x.count(0);
   }
@@ -143,7 +150,7 @@ abstract class Rooms extends Calls {
 
   private static String imageSeen(Prover x, int k) {
     StringBuilder out = new StringBuilder("image: ").append(x.again(k)).append(' ').append(sidesSeen(x));
-    out.append(' ').append(proofSeen(x)).append(' ').append(linesSeen(x)).append(' ').append(slotsSeen(x));
-    return out.append(' ').append(tapeSeen(x)).toString();
+    out.append(' ').append(proofSeen(x)).append(' ').append(linesSeen(x)).append(' ').append(searchSeen(x));
+    return out.append(' ').append(slotsSeen(x)).append(' ').append(tapeSeen(x)).toString();
   }
 }
