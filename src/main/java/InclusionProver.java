@@ -1049,7 +1049,7 @@ public final class InclusionProver {
 
     int partsOfSet(int set, int letter) {
       int parts = 0;
-      if (set == 0) {
+      if (set == 0 || !isLetter(letter)) {
         return parts;
       }
       for (int term = 0; term < terms; term++) {
@@ -1292,6 +1292,9 @@ public final class InclusionProver {
     }
 
     private int lineFor(int term, int most, int parentLine, int letter) {
+      if (!left.isTerm(term)) {
+        return NONE;
+      }
       int line = firstOf[term];
       for (int i = 0; i < MOST_LINES && line != NONE; i++) {
         if ((lines.set[line] & ~most) == 0) {

@@ -137,6 +137,10 @@ public final class PromiseTest extends Calls {
     due("the latest side's", x.fault(), 2);
     put(x, 1, "a");
     due("the latest side's", x.fault(), -1);
+    put(x, 1, "ab+");
+    due("the latest side's", x.fault(), 3);
+    put(x, 2, "a+");
+    due("no such side: without", x.fault(), -1);
   }
 
   private static void swap() {
@@ -380,7 +384,7 @@ public final class PromiseTest extends Calls {
     due("300 lines", x.count(0), 300);
     due("no separating word", x.apart(0), -1);
     int turn = 0;
-    while (x.line(turn, 2) != -1) {
+    while (turn < 300 && x.line(turn, 2) != -1) {
       turn++;
     }
     due("the line in turn has no premises", x.line(turn, 3), 0);
@@ -700,7 +704,8 @@ public final class PromiseTest extends Calls {
     x.image(1);
     tape(x, "c");
     x.has(0);
-    x.side(0);
+    put(x, 0, "a+");
+    due("another fault", x.fault(), 2);
     x.swap();
     x.prove();
     x.keep(0, 2);

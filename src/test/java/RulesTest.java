@@ -1,13 +1,11 @@
 import java.lang.management.ManagementFactory;
 import java.lang.reflect.Array;
-import java.lang.reflect.Constructor;
 import java.lang.reflect.Field;
 import java.lang.reflect.Method;
 import java.lang.reflect.Modifier;
 import java.nio.file.Files;
 import java.nio.file.Path;
 import java.util.ArrayDeque;
-import java.util.ArrayList;
 import java.util.Collections;
 import java.util.IdentityHashMap;
 import java.util.List;
@@ -22,7 +20,7 @@ public final class RulesTest {
   private static int wrong = 0;
 
   public static void main(String[] args) throws Exception {
-    face();
+    classes();
     source(Files.readString(Path.of("src/main/java/InclusionProver.java")));
     room();
     System.out.println(wrong == 0 ? "the rules are kept" : wrong + " rules are broken");
@@ -38,38 +36,23 @@ public final class RulesTest {
     }
   }
 
-  private static final String FACE = "int write(long); int side(int); int fault(); void swap(); "
-      + "boolean keep(int,int); int make(int,int,int,int); int shape(int,int); int term(int,int,int); "
-      + "int like(int,int); boolean has(int); int words(int,int); int word(int,int,int); int prove(); "
-      + "int apart(int); int count(int); int line(int,int); int alter(int,int,int); int cut(); "
-      + "int check(); int why(int); int same(); int between(int,int); boolean image(int); "
-      + "boolean again(int)";
+  /** The face itself is FaceTest's. */
+  private static void classes() {
+    Class<?>[] inside = InclusionProver.class.getDeclaredClasses();
+    due("at most twelve classes", inside.length <= 11);
+    for (Class<?> c : inside) {
+      nested(c, publicMethods());
+    }
+  }
 
-  private static void face() throws Exception {
-    Class<?> c = InclusionProver.class;
-    due("a public final class", Modifier.isPublic(c.getModifiers()) && Modifier.isFinal(c.getModifiers()));
-    Set<String> want = new TreeSet<>(List.of(FACE.split("; ")));
-    Set<String> got = new TreeSet<>();
+  private static Set<String> publicMethods() {
     Set<String> names = new TreeSet<>();
-    for (Method m : c.getDeclaredMethods()) {
+    for (Method m : InclusionProver.class.getDeclaredMethods()) {
       if (Modifier.isPublic(m.getModifiers())) {
-        got.add(told(m));
         names.add(m.getName());
-      } else {
-        due(m.getName() + " is private", Modifier.isPrivate(m.getModifiers()) || m.isSynthetic());
       }
     }
-    due("the face's methods: " + got, got.equals(want));
-    for (Field f : c.getDeclaredFields()) {
-      due(f.getName() + " is private", Modifier.isPrivate(f.getModifiers()) || f.getName().equals("NONE"));
-    }
-    due("NONE", c.getField("NONE").getInt(null) == -1);
-    Constructor<?>[] made = c.getDeclaredConstructors();
-    due("one public constructor", made.length == 1 && Modifier.isPublic(made[0].getModifiers()));
-    due("at most twelve classes", c.getDeclaredClasses().length <= 11);
-    for (Class<?> inside : c.getDeclaredClasses()) {
-      nested(inside, names);
-    }
+    return names;
   }
 
   private static void nested(Class<?> inside, Set<String> names) {
@@ -87,14 +70,6 @@ public final class RulesTest {
       due(name + "." + m.getName() + " has a name of its own", !names.contains(m.getName()));
       due(name + "." + m.getName() + " takes at most seven", m.getParameterCount() <= 7);
     }
-  }
-
-  private static String told(Method m) {
-    List<String> types = new ArrayList<>();
-    for (Class<?> t : m.getParameterTypes()) {
-      types.add(t.getSimpleName());
-    }
-    return m.getReturnType().getSimpleName() + " " + m.getName() + "(" + String.join(",", types) + ")";
   }
 
   private static void source(String text) {
@@ -250,8 +225,7 @@ public final class RulesTest {
   }
 
   private static void everyMethodIsCalled() {
-    for (String method : FACE.split("; ")) {
-      String name = method.replaceAll("^\\w+ |\\(.*", "");
+    for (String name : publicMethods()) {
       due(name + " is among the calls", CALLS.stream().anyMatch(c -> c.name.split("\\W")[0].equals(name)));
     }
   }
